@@ -431,10 +431,9 @@ public final class ThrowRules {
 
         int asSetAheadOf(int end) {
             int set = 0;
-            for (int i = 0; i < end && i < NAME_LIMIT; i++) {
-                int one = meantAt(i);
-                if (one >= 0) {
-                    set |= 1 << one;
+            for (int i = 0; i < end && i < count && i < NAME_LIMIT; i++) {
+                if (meant[i] >= 0) {
+                    set |= 1 << meant[i];
                 }
             }
             return set;

@@ -119,6 +119,8 @@ public final class StatementTest {
         probe.judged("way f { <->loop { } <+>loop { <->break; } <->loop { <+>while { <->break; } } <->loop { <+>loop { <->break; } } }");
         probe.judged("way f { <->loop { <->return; } <+>loop { <+>if { <->{ <->break; } } } <+>loop { <->if { <->return; } else { <->break; } } }");
         probe.judged("way f free { <-loose>loop { <+loose>call f { <->break; }; <+>run { <->break; }; } }");
+        probe.judged("way f { <->loop { <+>if { } } <->loop { <+>try (f) { } } <->loop { <+>{ } } <->loop { <+>if { } else { } } }");
+        probe.judged("way f { <->loop { <+>try { } catch (loose e) { } } <+>loop { <->try (f) { <->break; } } }");
         probe.judged("way f { <->loop { <->try { <->break; } finally { <->return; } } }");
         probe.judged("way f { <+>loop { <->try { <->break; } finally { } } }");
         probe.judged("way f { <+>loop { <->try { <->break; } finally { <->break; } } }");

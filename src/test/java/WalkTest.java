@@ -3,7 +3,7 @@ public final class WalkTest {
     private static final int NONE = ThrowRules.NONE, ENDLESS = ThrowRules.ENDLESS, BAD = ThrowRules.BAD;
     private static final int ALL = 0, LOOSE = 2, A = 4, B = 5, C = 6;
     private static final String KINDS = "kind a below plain; kind b below a; kind c below plain; ";
-    private static final String WAYS = "way f { @ } way x throws a, zz, c, a; way z; way m free; way n free throws b; way y throws c; ";
+    private static final String WAYS = "way f { @ } way x throws a, zz, c, a; way z; way m free; way n free throws b; way y throws c; way w throws all; ";
 
     /** The numbers that a walk draws, by the document's words. */
     private static final class Draws {
@@ -47,7 +47,7 @@ public final class WalkTest {
     /** Walks the STATEMENTS as METHOD 0 with many seeds. */
     private static void walks(Probe probe, String statements, Walk walk) {
         String text = KINDS + WAYS.replace("@", statements);
-        probe.right(text, 6);
+        probe.right(text, 7);
         for (int i = 0; i < 100; i++) {
             long seed = i < 40 ? i - 5 : (i - 70) * 0x123456789abcdefL;
             Draws draws = new Draws(seed);
@@ -100,6 +100,8 @@ public final class WalkTest {
             }
             return end != NONE ? d.after(steps, end) : d.after(steps + 1, thrownByX(d));
         });
+        walks(probe, "call w; do;", d -> d.draw(2) == 1 ? d.after(1, ALL) : d.after(2, NONE));
+        walks(probe, "call m { throw all; }; do;", d -> d.after(2, d.draw(2) == 1 ? ALL : NONE));
         walks(probe, "call m { loop { break; } break; do; }; do;", d -> d.after(d.draw(2) == 1 ? 6 : 2, NONE));
     }
 
@@ -182,6 +184,8 @@ public final class WalkTest {
         });
         walks(probe, "try (y) { return; } catch (c e) { do; } throw a;", d -> d.draw(2) == 1 ? d.after(4, A) : d.after(2, NONE));
         walks(probe, "loop { try (y) { break; } finally { do; } } throw a;", d -> d.draw(2) == 1 ? d.after(4, C) : d.after(5, A));
+        walks(probe, "try (w) { do; } do;", d -> d.draw(2) == 1 ? d.after(2, ALL) : d.after(3, NONE));
+        walks(probe, "try (y) { throw all; }", d -> d.after(2, ALL));
         walks(probe, "try (n, m) { } do;", d -> {
             d.draw(1);
             return d.draw(2) == 1 ? d.after(1, B) : d.after(2, NONE);
