@@ -723,7 +723,7 @@ public final class ThrowRules {
             }
         }
 
-        Block takeBlock() {
+        private Block takeBlock() {
             if (braces >= BRACE_LIMIT) {
                 refuse();
             }
@@ -745,7 +745,7 @@ public final class ThrowRules {
             return block;
         }
 
-        Block takeLambda() {
+        private Block takeLambda() {
             boolean outside = inLoop;
             inLoop = false;
             lambdas++;
@@ -755,7 +755,7 @@ public final class ThrowRules {
             return block;
         }
 
-        Block takeLoop() {
+        private Block takeLoop() {
             boolean outside = inLoop;
             inLoop = true;
             Block block = takeBlock();
@@ -770,7 +770,7 @@ public final class ThrowRules {
             return wrong == NONE && tape.token >= 0 && tape.token <= RUN ? tape.token : NONE;
         }
 
-        Statement takeStatement() {
+        private Statement takeStatement() {
             int sort = sortHere();
             Statement one = new Statement(sort, tape.place, unit.ways.size() - 1, lambdas);
             if (sort == NONE || unit.statements.size() >= STATEMENT_LIMIT) {
@@ -812,14 +812,14 @@ public final class ThrowRules {
             return one;
         }
 
-        void takeIf(Statement one) {
+        private void takeIf(Statement one) {
             one.block = takeBlock();
             if (skip(ELSE_WORD)) {
                 one.other = takeBlock();
             }
         }
 
-        void takeRun(Statement one) {
+        private void takeRun(Statement one) {
             one.block = takeLambda();
             one.names = new Names();
             if (skip(THROWS_WORD)) {
@@ -835,7 +835,7 @@ public final class ThrowRules {
             }
         }
 
-        void takeNaming(Statement one) {
+        private void takeNaming(Statement one) {
             one.namePlace = tape.place;
             one.name = takeName();
             if (one.sort == CALL) {
@@ -879,7 +879,7 @@ public final class ThrowRules {
             return null;
         }
 
-        void takeTry(Statement one) {
+        private void takeTry(Statement one) {
             one.names = new Names();
             boolean whole = skip(LEFT_ROUND);
             if (whole) {
@@ -910,7 +910,7 @@ public final class ThrowRules {
             }
         }
 
-        Catch takeCatch() {
+        private Catch takeCatch() {
             Catch one = new Catch(scope, lambdas);
             take(CATCH_WORD);
             take(LEFT_ROUND);
@@ -984,7 +984,7 @@ public final class ThrowRules {
             }
         }
 
-        void judgeBlock(Block block) {
+        private void judgeBlock(Block block) {
             if (block == null) {
                 return;
             }
@@ -1000,7 +1000,7 @@ public final class ThrowRules {
             }
         }
 
-        void judgeStatement(Statement one) {
+        private void judgeStatement(Statement one) {
             if (one.sort == TRY) {
                 judgeTry(one);
                 return;
@@ -1099,7 +1099,7 @@ public final class ThrowRules {
         }
 
         /** Whether a break in a BLOCK belongs to the loop around it and is held by no finally. */
-        boolean hasBreak(Block block) {
+        private boolean hasBreak(Block block) {
             if (block == null) {
                 return false;
             }
@@ -1111,7 +1111,7 @@ public final class ThrowRules {
             return false;
         }
 
-        boolean hasBreakInside(Statement one) {
+        private boolean hasBreakInside(Statement one) {
             if (one.sort == IF || one.sort == BLOCK) {
                 return hasBreak(one.block) || hasBreak(one.other);
             }
@@ -1131,7 +1131,7 @@ public final class ThrowRules {
             return found;
         }
 
-        void judgeTry(Statement one) {
+        private void judgeTry(Statement one) {
             judgeBlock(one.block);
             int inside = throwOf(one.block) | closing(one.names);
             int ahead = 0;
@@ -1215,7 +1215,7 @@ public final class ThrowRules {
             return true;
         }
 
-        int goThrough(Block block) {
+        private int goThrough(Block block) {
             if (block == null) {
                 return DONE;
             }
@@ -1228,7 +1228,7 @@ public final class ThrowRules {
             return DONE;
         }
 
-        int goOver(Statement one) {
+        private int goOver(Statement one) {
             switch (one.sort) {
                 case CALL: return goCall(one.meant, one.block);
                 case THROW: return one.parameter == null ? one.meant : one.parameter.value;
@@ -1244,7 +1244,7 @@ public final class ThrowRules {
             }
         }
 
-        int goCall(int m, Block lambda) {
+        private int goCall(int m, Block lambda) {
             Way way = unit == null ? null : unit.wayAt(m);
             if (way == null) {
                 return DONE;
@@ -1266,7 +1266,7 @@ public final class ThrowRules {
             return DONE;
         }
 
-        int goRound(Statement one) {
+        private int goRound(Statement one) {
             for (int n = 0; n <= STEP_LIMIT; n++) {
                 // The first time is a STEP already.
                 if (n > 0 && !begin()) {
@@ -1283,7 +1283,7 @@ public final class ThrowRules {
             return ENDLESS;
         }
 
-        int goTry(Statement one) {
+        private int goTry(Statement one) {
             int end = goThrough(one.block);
             if (end != ENDLESS) {
                 end = goCatch(one, goClose(one.names, end));
@@ -1306,7 +1306,7 @@ public final class ThrowRules {
             return now;
         }
 
-        int goCatch(Statement one, int end) {
+        private int goCatch(Statement one, int end) {
             if (end < 0 || unit == null) {
                 return end;
             }

@@ -33,7 +33,7 @@ public final class ChanceTest {
         for (int n = 0; n < 3000; n++) {
             judgeTwice(probe, maker.spoiled(), n, false);
         }
-        for (int n = 0; n < 200; n++) {
+        for (int n = 0; n < 400; n++) {
             maker.anyCalls(probe);
         }
         probe.end();
@@ -42,10 +42,10 @@ public final class ChanceTest {
     private static void judgeTwice(Probe probe, String text, int n, boolean tame) {
         probe.fresh();
         int answer = probe.read(text);
-        ThrowRules first = probe.x;
+        Counted first = probe.x;
         probe.fresh();
         probe.due("a second read of " + text, probe.read(text), answer);
-        ThrowRules second = probe.x;
+        Counted second = probe.x;
         for (int what = 0; what < 5; what++) {
             probe.due("told(" + what + ") of " + text, second.told(what), first.told(what));
         }
@@ -53,44 +53,48 @@ public final class ChanceTest {
             probe.due("place " + answer + " is in " + text, answer <= -10 && answer >= -10 - text.length(), true);
             return;
         }
-        order(probe, first, text);
+        order(probe, second, text);
         for (int m = 0; m < answer; m++) {
-            for (int k = 0; k < 5; k++) {
+            int hasBlock = first.method(m, 1);
+            int can = first.method(m, 2);
+            for (int k = 0; k < 4; k++) {
                 long seed = n * 7919L + k * 104729L;
                 int end = first.walk(m, seed);
                 probe.due("walk(" + m + ", " + seed + ") again", second.walk(m, seed), end);
                 probe.due("steps() again", second.steps(), first.steps());
-                probe.due("method " + m + " has a block", end != ThrowRules.BAD, first.method(m, 1) == 1);
+                probe.due("method " + m + " has a block", end != ThrowRules.BAD, hasBlock == 1);
                 if (tame && end >= 0 && first.kind(end, 1) == 1) {
-                    probe.due("kind " + end + " can come out of method " + m + " of " + text, canThrow(first, m, end), true);
+                    probe.due("kind " + end + " can come out of method " + m + " of " + text, canThrow(first, can, end), true);
                 }
             }
         }
     }
 
-    private static void order(Probe probe, ThrowRules x, String text) {
+    private static void order(Probe probe, Counted x, String text) {
         long before = -1;
-        for (int k = 0; k < x.told(3) && k < 100; k++) {
+        int count = Math.min(x.told(3), 100);
+        for (int k = 0; k < count; k++) {
             long now = (x.mistake(k, 1) * 100L + x.mistake(k, 0)) * 100 + x.mistake(k, 2) + 1;
             probe.due("mistake " + k + " behind the one before, of " + text, before < now, true);
             before = now;
         }
     }
 
-    private static boolean canThrow(ThrowRules x, int m, int kind) {
-        boolean can = false;
+    private static boolean canThrow(Counted x, int can, int kind) {
         for (int k = 0; k < 16; k++) {
-            can |= (x.method(m, 2) >> k & 1) == 1 && x.below(kind, k);
+            if ((can >> k & 1) == 1 && x.below(kind, k)) {
+                return true;
+            }
         }
-        return can;
+        return false;
     }
 
     /** Any calls with any numbers: none may throw. */
     private void anyCalls(Probe probe) {
         probe.fresh();
-        ThrowRules x = probe.x;
+        Counted x = probe.x;
         probe.read(fittingUnit());
-        for (int n = 0; n < 300; n++) {
+        for (int n = 0; n < 180; n++) {
             int a = number();
             int b = number();
             switch (chance.nextInt(13)) {

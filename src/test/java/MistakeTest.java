@@ -125,7 +125,7 @@ public final class MistakeTest {
 
     private static void edges(Probe probe) {
         probe.mistakes("way <9:1>f { throw plain; <7>do; }");
-        ThrowRules x = probe.x;
+        Counted x = probe.x;
         probe.due("told(0)", x.told(0), 4);
         probe.due("told(1)", x.told(1), 1);
         probe.due("told(2)", x.told(2), 2);

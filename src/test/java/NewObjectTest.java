@@ -2,7 +2,7 @@
 public final class NewObjectTest {
     public static void main(String[] args) {
         Probe probe = new Probe("NewObjectTest");
-        ThrowRules x = probe.x;
+        Counted x = probe.x;
         probe.due("told(0)", x.told(0), 4);
         for (int what = 1; what <= 4; what++) {
             probe.due("told(" + what + ")", x.told(what), 0);

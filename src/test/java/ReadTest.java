@@ -188,7 +188,7 @@ public final class ReadTest {
 
     private static void whatStays(Probe probe) {
         probe.right("kind a below plain; way f { do; throw zz; }", 1);
-        ThrowRules x = probe.x;
+        Counted x = probe.x;
         probe.due("told(4) behind a right text", x.told(4), 0);
         probe.due("walk(0, 5)", x.walk(0, 5), ThrowRules.NONE);
         probe.due("read of a wrong text", probe.read("way g; way h; kind b below a; way f { do; do; throw zz; set zz;"), -10 - 63);

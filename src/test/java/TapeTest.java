@@ -11,7 +11,7 @@ public final class TapeTest {
     }
 
     private static void orderOfBytes(Probe probe) {
-        ThrowRules x = probe.x;
+        Counted x = probe.x;
         // way zabcde ;\n way q;
         probe.due("feed of a text", x.feed(0x77617920, 0x7a616263, 0x6465203b, 0x0a207761, 0x7920713b), 20);
         probe.due("told(4)", x.told(4), 20);
@@ -28,7 +28,7 @@ public final class TapeTest {
 
     private static void full(Probe probe) {
         probe.fresh();
-        ThrowRules x = probe.x;
+        Counted x = probe.x;
         for (int n = 1; n <= 100; n++) {
             probe.due("feed " + n, x.feed(BLANKS, BLANKS, BLANKS, BLANKS, BLANKS), 20 * n);
         }
@@ -45,7 +45,7 @@ public final class TapeTest {
 
     private static void cuts(Probe probe) {
         probe.fresh();
-        ThrowRules x = probe.x;
+        Counted x = probe.x;
         probe.due("cut(1) of nothing", x.cut(1), ThrowRules.BAD);
         probe.due("cut(-1) of nothing", x.cut(-1), ThrowRules.BAD);
         x.feed(0x616c6c65, 0x72726f72, BLANKS, BLANKS, BLANKS);

@@ -243,7 +243,7 @@ public final class WalkTest {
 
     private static void wrongCalls(Probe probe) {
         probe.right("way f; way g { do; do; }", 2);
-        ThrowRules x = probe.x;
+        Counted x = probe.x;
         probe.due("steps() of no walk", x.steps(), 0);
         probe.due("walk(1, 0)", x.walk(1, 0), NONE);
         int[] wrongNumbers = {0, -1, 2, Integer.MIN_VALUE, Integer.MAX_VALUE};
