@@ -1295,7 +1295,7 @@ public final class ThrowRules {
             return last == DONE ? end : last;
         }
 
-        int goClose(Names names, int end) {
+        private int goClose(Names names, int end) {
             int now = end;
             for (int i = NAME_LIMIT - 1; names != null && i >= 0; i--) {
                 int thrown = goCall(names.meantAt(i), null);

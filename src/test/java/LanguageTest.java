@@ -2,6 +2,10 @@ import java.io.IOException;
 import java.nio.charset.StandardCharsets;
 import java.nio.file.Files;
 import java.nio.file.Path;
+import java.util.HashSet;
+import java.util.Map;
+import java.util.Set;
+import java.util.TreeMap;
 import java.util.regex.Matcher;
 import java.util.regex.Pattern;
 
@@ -27,7 +31,50 @@ public final class LanguageTest {
         probe.due("static fields that are not final", count(words, "\\bstatic\\s+(?!final)\\w+(\\[\\])?\\s+\\w+\\s*[=;]"), 0);
         probe.due("classes are at most twelve", count(words, "\\bclass\\s+\\w+") <= 12, true);
         probe.due("classes that are not final", count(words, "(?<!final )\\bclass\\b"), 0);
+        recursionIsPrivate(probe, words);
         probe.end();
+    }
+
+    /** Rule 8: a method that comes back to itself by calls within its class is private. */
+    private static void recursionIsPrivate(Probe probe, String words) {
+        int found = 0;
+        for (String body : words.split("\\bclass\\b")) {
+            Map<String, String> methods = methodsOf(body);
+            for (String name : methods.keySet()) {
+                if (reached(name, methods).contains(name)) {
+                    found++;
+                    probe.due(name + " is private", methods.get(name).startsWith("private "), true);
+                }
+            }
+        }
+        probe.due("methods that come back to themselves are found", found > 0, true);
+    }
+
+    /** The methods of one class by their names, each with its words from its first one on. */
+    private static Map<String, String> methodsOf(String body) {
+        Map<String, String> methods = new TreeMap<>();
+        Matcher matcher = Pattern.compile("(?ms)^        ((?:private )?(?:static )?\\w+ (\\w+)\\([^)]*\\) \\{\n.*?)^        \\}$").matcher(body);
+        while (matcher.find()) {
+            methods.put(matcher.group(2), matcher.group(1));
+        }
+        return methods;
+    }
+
+    private static Set<String> reached(String start, Map<String, String> methods) {
+        Set<String> reached = new HashSet<>();
+        reach(start, methods, reached);
+        return reached;
+    }
+
+    private static void reach(String from, Map<String, String> methods, Set<String> reached) {
+        String text = methods.get(from);
+        Matcher call = Pattern.compile("(?<![.\\w])(\\w+)\\(").matcher(text.substring(text.indexOf('\n')));
+        while (call.find()) {
+            String name = call.group(1);
+            if (methods.containsKey(name) && reached.add(name)) {
+                reach(name, methods, reached);
+            }
+        }
     }
 
     private static int count(String words, String pattern) {
